@@ -1,0 +1,52 @@
+import java.io.IOException;
+import java.nio.file.Files;
+import java.nio.file.Path;
+import java.util.regex.Matcher;
+import java.util.regex.Pattern;
+
+/** What a look at the words of the program can tell of ../shared/LANGUAGE.md. */
+public final class LanguageTest {
+    private static final Path PROGRAM = Path.of("src/main/java/Swarmhall.java");
+    private static final int LONGEST_METHOD = 60;
+    private static final String[] FORBIDDEN = {
+        "->", "::", "\\btry\\b", "\\bcatch\\b", "\\bfinally\\b", "\\bsynchronized\\b", "\\bassert\\b",
+        "\\binstanceof\\b", "\\bpackage\\b", "\\bdouble\\b", "\\bfloat\\b", "\\bObject\\b", "Exact\\b",
+        "\\bSystem\\.(?!arraycopy)", "\\bRandom\\b", "\\bThread\\b", "\\bprotected\\b", "\\bvolatile\\b",
+        "\\bstatic\\s*\\{", "\\bimport\\s+(?!java\\.util\\.(Arrays|ArrayList|List|Iterator|NoSuchElementException);)",
+        "\\bArrays\\.(?!copyOf\\b|copyOfRange\\b|fill\\b|\\s)", "\\bequals\\b", "\\bhashCode\\b", "\\btoString\\b",
+        "\\bstatic\\s+(?!final\\b)[\\w\\[\\]]+\\s+\\w+\\s*[=;]",
+    };
+
+    public static void main(String[] args) throws IOException {
+        String program = Files.readString(PROGRAM);
+        Check.due("signs from 1 to 127", true, program.chars().allMatch(sign -> sign > 0 && sign < 128));
+        String code = withoutCommentsAndTexts(program);
+        for (String each : FORBIDDEN) {
+            Matcher found = Pattern.compile(each).matcher(code.replaceAll("import java.util.Arrays;", ""));
+            Check.due("the word " + each, "", found.find() ? found.group() : "");
+        }
+        Check.due("the longest method is short", true, longestBody(code) <= LONGEST_METHOD);
+        Check.end();
+    }
+
+    private static String withoutCommentsAndTexts(String program) {
+        return program.replaceAll("(?s)/\\*.*?\\*/", "").replaceAll("//[^\n]*", "").replaceAll("\"[^\"\n]*\"", "\"\"");
+    }
+
+    /** A method begins with a line that ends in ") {" or "Exception {", and ends with a brace as far in as it. */
+    private static int longestBody(String code) {
+        String[] lines = code.split("\n");
+        int longest = 0;
+        for (int at = 0; at < lines.length; at++) {
+            if (lines[at].matches("( {4}| {8})[a-zA-Z].*(\\)|Exception) \\{")) {
+                String end = lines[at].replaceAll("\\S.*", "") + "}";
+                int to = at;
+                while (to < lines.length && !lines[to].equals(end)) {
+                    to++;
+                }
+                longest = Math.max(longest, to - at);
+            }
+        }
+        return longest;
+    }
+}
