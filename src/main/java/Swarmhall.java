@@ -97,7 +97,11 @@ public final class Swarmhall {
         }
         int come = 0;
         for (int round = 0; round < rounds; round++) {
-            come += runRound();
+            begin();
+            askAll();
+            come += comeAll();
+            settleAll();
+            roundsRun++;
         }
         return come;
     }
@@ -281,19 +285,6 @@ public final class Swarmhall {
 
     // ---- a round
 
-    private int runRound() {
-        begin();
-        askAll();
-        int come = comeAll();
-        for (Peer peer : present) {
-            if (peer != null) {
-                settle(peer);
-            }
-        }
-        roundsRun++;
-        return come;
-    }
-
     /** Finds what is shown, chosen and rare: it stands for the whole round. */
     private void begin() {
         for (int piece = 0; piece < holdersAtStart.length; piece++) {
@@ -403,6 +394,14 @@ public final class Swarmhall {
         return come;
     }
 
+    private void settleAll() {
+        for (Peer peer : present) {
+            if (peer != null) {
+                settle(peer);
+            }
+        }
+    }
+
     private static void settle(Peer peer) {
         for (int piece = 0; piece < PIECES; piece++) {
             if (peer.store.isComplete(piece)) {
@@ -412,7 +411,7 @@ public final class Swarmhall {
                 peer.forgetSenders(piece);
             }
         }
-        peer.store.settleAll();
+        peer.store.endPieces();
     }
 
     // ---- sets
@@ -529,7 +528,7 @@ public final class Swarmhall {
         }
 
         /** Complete pieces are held if they are sound; their blocks need no more room either way. */
-        void settleAll() {
+        void endPieces() {
             for (int piece = 0; piece < PIECES; piece++) {
                 if (isComplete(piece)) {
                     if (isSound(piece)) {
@@ -589,12 +588,12 @@ public final class Swarmhall {
             for (int at = 0; at < count; at++) {
                 int entry = entries[at];
                 if (entry / (2 * BLOCKS) != round) {
-                    store.settleAll();
+                    store.endPieces();
                     round = entry / (2 * BLOCKS);
                 }
                 store.take(entry % BLOCKS, entry / BLOCKS % 2 == 1);
             }
-            store.settleAll();
+            store.endPieces();
             return store.held;
         }
     }

@@ -15,7 +15,6 @@ public final class PeersAndRulesTest {
         setCareful();
         spoil();
         spoilCountsWhenBlocksCome();
-        wrongCallsChangeNothing();
         Check.end();
     }
 
@@ -170,23 +169,6 @@ public final class PeersAndRulesTest {
         late.run(4);
         Check.due("7: not spoilt when it came", 3, late.holds(1));
         Check.due("7: its sender is not banned", false, late.isBanned(1, 0));
-    }
-
-    private static void wrongCallsChangeNothing() {
-        Swarmhall hall = Halls.of(true, false, false, false, false, false);
-        hall.spoil(0, 0, true);
-        hall.run(3);
-        hall.leave(4);
-        Object before = Halls.answers(hall);
-        Check.dueThrow("join", STATE, () -> hall.join(true));
-        Check.dueThrow("leave", INDEX, () -> hall.leave(4));
-        Check.dueThrow("setPriority", ARGUMENT, () -> hall.setPriority(0, 4));
-        Check.dueThrow("setSequence", INDEX, () -> hall.setSequence(4, true));
-        Check.dueThrow("setCareful", INDEX, () -> hall.setCareful(4, true));
-        Check.dueThrow("spoil", INDEX, () -> hall.spoil(0, 12, true));
-        Check.dueThrow("run", ARGUMENT, () -> hall.run(21));
-        Check.due("a call that throws changes nothing", before, Halls.answers(hall));
-        Check.due("nor the priority", 1, hall.setPriority(0, 1));
     }
 
     private interface CallWith {

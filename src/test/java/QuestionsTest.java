@@ -7,6 +7,7 @@ public final class QuestionsTest {
         holds();
         holdsByLog();
         logKnowsRounds();
+        logKnowsWrongDoubles();
         blocks();
         holders();
         shown();
@@ -80,6 +81,26 @@ public final class QuestionsTest {
         Check.due("13: three blocks", 7, hall.blocks(3, 0));
         Check.due("12: not held", 0, hall.holdsByLog(3));
         hall.run(1);
+        Check.due("12: held", 1, hall.holdsByLog(3));
+    }
+
+    /** The same when the doubles are wrong, too. */
+    private static void logKnowsWrongDoubles() {
+        Swarmhall hall = Halls.of(true, true, true, false);
+        Halls.wantOnly(hall, 0);
+        for (int seeder = 0; seeder < 3; seeder++) {
+            hall.spoil(seeder, 0, true);
+        }
+        hall.run(2);
+        Check.due("18: doubles", 2, hall.doubles(3));
+        for (int seeder = 0; seeder < 3; seeder++) {
+            Check.due("20: not one brought all", false, hall.isBanned(3, seeder));
+            hall.spoil(seeder, 0, false);
+        }
+        hall.run(1);
+        Check.due("12: not held", 0, hall.holdsByLog(3));
+        hall.run(1);
+        Check.due("11: held", 1, hall.holds(3));
         Check.due("12: held", 1, hall.holdsByLog(3));
     }
 
