@@ -378,20 +378,25 @@ public final class Swarmhall {
         Arrays.fill(peer.gotOf, 0);
         int come = 0;
         for (int ask = 0; ask < peer.asks.count; ask++) {
-            int block = peer.asks.blocks[ask];
-            int from = peer.asks.others[ask];
-            Peer sender = find(from);
-            boolean isWrong = sender != null && isIn(sender.spoiled, block / BLOCKS_A_PIECE);
-            peer.log.add(roundsRun, block, isWrong);
-            if (peer.store.take(block, isWrong)) {
-                peer.cameFrom[from] |= 1L << block;
-                peer.gotOf[from]++;
+            Peer sender = find(peer.asks.others[ask]);
+            if (sender != null && comeOne(peer, sender, peer.asks.blocks[ask])) {
                 come++;
-            } else {
-                peer.doublesCome++;
             }
         }
         return come;
+    }
+
+    /** False if the block is a double. */
+    private boolean comeOne(Peer peer, Peer sender, int block) {
+        boolean isWrong = isIn(sender.spoiled, block / BLOCKS_A_PIECE);
+        peer.log.add(roundsRun, block, isWrong);
+        if (!peer.store.take(block, isWrong)) {
+            peer.doublesCome++;
+            return false;
+        }
+        peer.cameFrom[sender.number] |= 1L << block;
+        peer.gotOf[sender.number]++;
+        return true;
     }
 
     private void settleAll() {
