@@ -1,7 +1,10 @@
+import java.io.IOException;
 import java.lang.reflect.Constructor;
 import java.lang.reflect.Field;
 import java.lang.reflect.Method;
 import java.lang.reflect.Modifier;
+import java.nio.file.Files;
+import java.nio.file.Path;
 import java.util.Arrays;
 import java.util.Set;
 import java.util.TreeSet;
@@ -17,7 +20,10 @@ public final class FaceTest {
         "strikes(int,int) int", "NONE int",
     };
 
-    public static void main(String[] args) {
+    private static final Path DOCUMENT = Path.of("../shared/DOC.md");
+    private static final Path PROGRAM = Path.of("src/main/java/Swarmhall.java");
+
+    public static void main(String[] args) throws IOException {
         Set<String> seen = new TreeSet<>();
         Set<String> named = new TreeSet<>();
         for (Constructor<?> each : Swarmhall.class.getDeclaredConstructors()) {
@@ -42,7 +48,25 @@ public final class FaceTest {
             }
         }
         Check.due("public and final", Modifier.PUBLIC | Modifier.FINAL, Swarmhall.class.getModifiers());
+        checkLines();
         Check.end();
+    }
+
+    /** Each line of the document's face stands in the program, with its parameters' names and its throws clause. */
+    private static void checkLines() throws IOException {
+        String program = Files.readString(PROGRAM);
+        String document = Files.readString(DOCUMENT);
+        String face = document.substring(document.indexOf("```java"));
+        int count = 0;
+        for (String line : face.substring(0, face.indexOf("\n}")).split("\n")) {
+            String call = line.endsWith(");") || line.endsWith("Exception;")
+                    ? line.substring(0, line.length() - 1) + " {" : line;
+            if (line.contains("public")) {
+                Check.due("the line " + line, true, program.contains("\n" + call + "\n"));
+                count++;
+            }
+        }
+        Check.due("lines of the face: the class, and all in it", FACE.length + 1, count);
     }
 
     private static String types(Class<?>[] types) {

@@ -24,6 +24,8 @@ public final class LanguageTest {
         "\\bstatic\\s*\\{", "\\bimport\\s+(?!java\\.util\\.(Arrays|ArrayList|List|Iterator|NoSuchElementException);)",
         "\\bArrays\\.(?!copyOf\\b|copyOfRange\\b|fill\\b|\\s)", "\\bequals\\b", "\\bhashCode\\b", "\\btoString\\b",
         "\\bstatic\\s+(?!final\\b)[\\w\\[\\]]+\\s+\\w+\\s*[=;]",
+        "\\bthrow\\s+(?!new (?:IllegalState|IllegalArgument|IndexOutOfBounds)Exception\\(\"\"\\);)",
+        "\"\"\\s*\\+", "\\+=?\\s*\"\"", "\\bString\\b",
     };
 
     public static void main(String[] args) throws IOException {
