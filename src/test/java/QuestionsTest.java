@@ -1,6 +1,8 @@
 /** Promises 10 to 20. */
 public final class QuestionsTest {
     private static final Class<IndexOutOfBoundsException> INDEX = IndexOutOfBoundsException.class;
+    /** Rounds that have run before the first block comes. */
+    private static final int[] IDLE = {0, 1, 2, 3, 7, 100, 195, 196};
 
     public static void main(String[] args) {
         peers();
@@ -70,38 +72,51 @@ public final class QuestionsTest {
 
     /** A double that comes in the round in which its piece is dropped is no block of the next try. */
     private static void logKnowsRounds() {
-        Swarmhall hall = Halls.of(true, true, true, false);
-        Halls.wantOnly(hall, 0);
-        hall.spoil(0, 0, true);
-        hall.run(2);
-        Check.due("18: doubles", 2, hall.doubles(3));
-        Check.due("13: dropped", 0, hall.blocks(3, 0));
-        hall.spoil(0, 0, false);
-        hall.run(1);
-        Check.due("13: three blocks", 7, hall.blocks(3, 0));
-        Check.due("12: not held", 0, hall.holdsByLog(3));
-        hall.run(1);
-        Check.due("12: held", 1, hall.holdsByLog(3));
+        for (int idle : IDLE) {
+            Swarmhall hall = idleHall(idle);
+            hall.spoil(0, 0, true);
+            hall.run(2);
+            Check.due("18: doubles", 2, hall.doubles(3));
+            Check.due("13: dropped", 0, hall.blocks(3, 0));
+            hall.spoil(0, 0, false);
+            hall.run(1);
+            Check.due("13: three blocks", 7, hall.blocks(3, 0));
+            Check.due("12: not held", 0, hall.holdsByLog(3));
+            hall.run(1);
+            Check.due("12: held", 1, hall.holdsByLog(3));
+        }
     }
 
     /** The same when the doubles are wrong, too. */
     private static void logKnowsWrongDoubles() {
+        for (int idle : IDLE) {
+            Swarmhall hall = idleHall(idle);
+            for (int seeder = 0; seeder < 3; seeder++) {
+                hall.spoil(seeder, 0, true);
+            }
+            hall.run(2);
+            Check.due("18: doubles", 2, hall.doubles(3));
+            for (int seeder = 0; seeder < 3; seeder++) {
+                Check.due("20: not one brought all", false, hall.isBanned(3, seeder));
+                hall.spoil(seeder, 0, false);
+            }
+            hall.run(1);
+            Check.due("12: not held", 0, hall.holdsByLog(3));
+            hall.run(1);
+            Check.due("11: held", 1, hall.holds(3));
+            Check.due("12: held", 1, hall.holdsByLog(3));
+        }
+    }
+
+    /** So many rounds have run in which nothing was wanted; now 3 wants the piece 0 of 0, 1 and 2. */
+    private static Swarmhall idleHall(int rounds) {
         Swarmhall hall = Halls.of(true, true, true, false);
+        Halls.wantOnly(hall);
+        for (int left = rounds; left > 0; left -= 20) {
+            hall.run(Math.min(left, 20));
+        }
         Halls.wantOnly(hall, 0);
-        for (int seeder = 0; seeder < 3; seeder++) {
-            hall.spoil(seeder, 0, true);
-        }
-        hall.run(2);
-        Check.due("18: doubles", 2, hall.doubles(3));
-        for (int seeder = 0; seeder < 3; seeder++) {
-            Check.due("20: not one brought all", false, hall.isBanned(3, seeder));
-            hall.spoil(seeder, 0, false);
-        }
-        hall.run(1);
-        Check.due("12: not held", 0, hall.holdsByLog(3));
-        hall.run(1);
-        Check.due("11: held", 1, hall.holds(3));
-        Check.due("12: held", 1, hall.holdsByLog(3));
+        return hall;
     }
 
     private static void blocks() {
