@@ -32,9 +32,11 @@ public final class EdgesOfTermsTest {
         mostBlocksOfSeveral();
         oneBlockOfEachThatChose();
         onlyThoseThatChose();
+        rarestWhereverItStands();
         onceMoreOnlyIfAllAreAsked();
         onceMoreNotWhileOneIsNotShown();
         onceMoreWithoutUnwantedOnes();
+        onceMoreOfWhatEachShows();
         allBlocksButOneMakeNoPiece();
         oneWrongBlockDropsAll();
         droppedPiecesComeAgain();
@@ -44,6 +46,7 @@ public final class EdgesOfTermsTest {
         allFourAreABan();
         twoStrikesAreNoBan();
         strikesGoOnBehindABan();
+        thirdStrikeBehindABan();
         Check.end();
     }
 
@@ -417,6 +420,20 @@ public final class EdgesOfTermsTest {
         }
     }
 
+    /** The peer 1 holds all but one piece, so that one has fewer holders than those before and behind it. */
+    private static void rarestWhereverItStands() {
+        for (int rare = 0; rare < Halls.PIECES; rare++) {
+            Swarmhall hall = Halls.of(true, false);
+            hall.setPriority(rare, 0);
+            Check.due("all but one", 44, hall.run(20) + hall.run(20) + hall.run(4));
+            hall.setPriority(rare, 1);
+            hall.join(false);
+            hall.run(1);
+            Check.due("the rare one of 0: " + rare, 1, hall.blocks(2, rare));
+            Check.due("another one of 1", 1, hall.blocks(2, rare == 0 ? 1 : 0));
+        }
+    }
+
     private static void onceMoreOnlyIfAllAreAsked() {
         Swarmhall two = Halls.of(true, true, false);
         Halls.wantOnly(two, 0);
@@ -448,6 +465,26 @@ public final class EdgesOfTermsTest {
         Check.due("three of the piece 0", 3, hall.run(1));
         Check.due("the last one of it", 1, hall.run(1));
         Check.due("nothing else is wanted", 2, hall.doubles(4));
+    }
+
+    /** One block of the piece 0 and one of the piece 1 are missing; the fourth one to be asked shows only 1. */
+    private static void onceMoreOfWhatEachShows() {
+        Swarmhall hall = Halls.of(true, false);
+        Halls.wantOnly(hall, 0);
+        hall.run(3);
+        Halls.wantOnly(hall, 1);
+        hall.run(3);
+        for (int seeder = 2; seeder <= 4; seeder++) {
+            hall.join(true);
+        }
+        hall.setCareful(4, true);
+        Halls.wantOnly(hall, 0, 1);
+        Check.due("the fourth one shows the piece 1 alone", Halls.set(1), hall.shown(4, 1));
+        Check.due("0 and 2 bring the last two", 2, hall.run(1));
+        Check.due("0 does", 1, hall.got(1, 0));
+        Check.due("2 does", 1, hall.got(1, 2));
+        Check.due("3 and 4 bring them once more", 2, hall.doubles(1));
+        Check.due("both are held", Halls.set(0, 1), hall.holds(1));
     }
 
     // ---- coming
@@ -576,6 +613,26 @@ public final class EdgesOfTermsTest {
         Check.due("three came from that", false, hall.isBanned(1, 2));
         hall.run(4);
         Check.due("then it comes right", 1, hall.holds(1));
+    }
+
+    /** The peer 1 has banned 0, but has a wrong block of it in each of the pieces 0, 1 and 2. */
+    private static void thirdStrikeBehindABan() {
+        Swarmhall hall = Halls.of(true, false);
+        for (int piece = 0; piece < 4; piece++) {
+            hall.spoil(0, piece, true);
+            Halls.wantOnly(hall, piece);
+            hall.run(piece < 3 ? 1 : 4);
+        }
+        Check.due("banned", true, hall.isBanned(1, 0));
+        hall.join(true);
+        for (int piece = 0; piece < 3; piece++) {
+            Halls.wantOnly(hall, piece);
+            Check.due("the last three", 3, hall.run(3));
+            Check.due("a strike more", piece + 2, hall.strikes(1, 0));
+            Check.due("the ban stays", true, hall.isBanned(1, 0));
+            Check.due("strikes of the other one", piece + 1, hall.strikes(1, 2));
+            Check.due("which is banned by the third one", piece == 2, hall.isBanned(1, 2));
+        }
     }
 
     // ---- halls
